@@ -63,14 +63,14 @@ public final class FerretCables {
             return FULL;
         }
         pipes.append(b);
-        book.playAnew();
+        book.playFrom(0);
         return pipes.size;
     }
 
     public int wipe() {
         int had = pipes.size;
         pipes.clear();
-        book.playAnew();
+        book.playFrom(0);
         return had;
     }
 
@@ -78,8 +78,8 @@ public final class FerretCables {
         if (pipes.many == 0) {
             return NOT;
         }
-        pipes.dropLast();
-        book.playAnew();
+        pipes.dropPipe();
+        book.playFrom(0);
         return pipes.many;
     }
 
@@ -88,7 +88,7 @@ public final class FerretCables {
     }
 
     public int pipe(int pipe, int what) {
-        if (!pipes.has(pipe)) {
+        if (!pipes.hasPipe(pipe)) {
             return BAD;
         }
         switch (what) {
@@ -123,14 +123,14 @@ public final class FerretCables {
     private int setShut(int v) {
         int was = pipes.shut;
         pipes.shut = v;
-        book.playAnew();
+        book.playFrom(0);
         return was;
     }
 
     private int setTakes(int v) {
         int was = pipes.takes;
         pipes.takes = v;
-        book.playAnew();
+        book.playFrom(0);
         return was;
     }
 
@@ -160,12 +160,12 @@ public final class FerretCables {
         if (book.many == 0) {
             return NOT;
         }
-        book.dropLast();
+        book.dropStep();
         return book.many;
     }
 
     public int read(int s) {
-        if (!sheets.has(s)) {
+        if (!sheets.hasSheet(s)) {
             return BAD;
         }
         if (sheets.isLost(s)) {
@@ -173,7 +173,9 @@ public final class FerretCables {
         }
         int done = 0;
         for (int i = 0; i + 1 < sheets.sizes[s]; i += 2) {
-            if (letIn(sheets.item(s, i), sheets.item(s, i + 1)) < 0) {
+            int from = sheets.item(s, i);
+            int to = sheets.item(s, i + 1);
+            if (!areTwoEnds(from, to) || book.add(from, to) == FULL) {
                 break;
             }
             done++;
@@ -190,10 +192,10 @@ public final class FerretCables {
             return BAD;
         }
         if (what == 0) {
-            return book.lyingBehind(k);
+            return book.lying[k];
         }
         if (what == 1) {
-            return book.fullPipes(book.lyingBehind(k));
+            return book.fullPipes(book.lying[k]);
         }
         return BAD;
     }
@@ -202,7 +204,7 @@ public final class FerretCables {
         if (!isBehind(k) || !isWire(wire)) {
             return BAD;
         }
-        return book.pipesOf(wire, book.lyingBehind(k));
+        return book.pipesOf(wire, book.lying[k]);
     }
 
     public int out(int wire) {
@@ -305,7 +307,7 @@ public final class FerretCables {
     }
 
     public int meet(int pipe, int first, int second, int what) {
-        if (!pipes.has(pipe) || !within(what, 0, 1)) {
+        if (!pipes.hasPipe(pipe) || !within(what, 0, 1)) {
             return BAD;
         }
         if (!within(first, 0, LAST_SECOND) || !within(second, 0, LAST_SECOND)) {
@@ -392,7 +394,7 @@ public final class FerretCables {
     // ---- sheets
 
     public int sheet(int s, int form, int n) {
-        if (!sheets.has(s) || !sheets.isForm(form) || n > ITEMS) {
+        if (!sheets.hasSheet(s) || !sheets.isForm(form) || n > ITEMS) {
             return BAD;
         }
         if (n < 0) {
@@ -403,7 +405,7 @@ public final class FerretCables {
     }
 
     public int lose(int s) {
-        if (!sheets.has(s)) {
+        if (!sheets.hasSheet(s)) {
             return BAD;
         }
         if (sheets.isLost(s)) {
@@ -415,7 +417,7 @@ public final class FerretCables {
     }
 
     public int lay(int s, int form, int i, int v) {
-        if (!sheets.has(s) || !sheets.isForm(form)) {
+        if (!sheets.hasSheet(s) || !sheets.isForm(form)) {
             return BAD;
         }
         int finding = sheets.findingAt(s, form, i);
@@ -427,7 +429,7 @@ public final class FerretCables {
     }
 
     public int get(int s, int form, int i) {
-        if (!sheets.has(s) || !sheets.isForm(form)) {
+        if (!sheets.hasSheet(s) || !sheets.isForm(form)) {
             return LEAST;
         }
         int finding = sheets.findingAt(s, form, i);
@@ -439,7 +441,7 @@ public final class FerretCables {
     }
 
     public int copy(int s, int i, int t, int j, int n) {
-        if (!sheets.has(s) || !sheets.has(t)) {
+        if (!sheets.hasSheet(s) || !sheets.hasSheet(t)) {
             return BAD;
         }
         if (sheets.isLost(s) || sheets.isLost(t)) {
@@ -456,7 +458,7 @@ public final class FerretCables {
     }
 
     public int write(int from, int to, int s) {
-        if (!areTwoEnds(from, to) || !sheets.has(s)) {
+        if (!areTwoEnds(from, to) || !sheets.hasSheet(s)) {
             return BAD;
         }
         if (sheets.isLost(s)) {
@@ -594,7 +596,7 @@ public final class FerretCables {
     }
 
     private int burningBehind(int k) {
-        return book.joinedTo(0, book.lyingBehind(k));
+        return book.joinedTo(0, book.lying[k]);
     }
 
     /** The first day on which a wire fails; NONE: it does not lie, or never. */
@@ -643,7 +645,7 @@ public final class FerretCables {
             settle();
         }
 
-        void dropLast() {
+        void dropPipe() {
             // the first PIPE has no ; ahead of it
             size = Math.max(0, size - PACE);
             settle();
@@ -683,12 +685,12 @@ public final class FerretCables {
             many = faultAt == NONE ? (size + 1) / PACE : 0;
         }
 
-        boolean has(int p) {
+        boolean hasPipe(int p) {
             return within(p, 0, many - 1);
         }
 
         boolean isShut(int p) {
-            return hasBit(shut, p);
+            return (shut & (1 << p)) != 0;
         }
 
         boolean touches(int p, int end) {
@@ -734,7 +736,7 @@ public final class FerretCables {
         }
 
         boolean isOpen(int p) {
-            return !pipes.isShut(p) && load[p] < pipes.takes;
+            return (pipes.shut & (1 << p)) == 0 && load[p] < pipes.takes;
         }
 
         boolean find(int from, int to) {
@@ -770,12 +772,16 @@ public final class FerretCables {
         private boolean shorten(int p) {
             int a = pipes.first[p];
             int b = pipes.second[p];
-            int through = Math.min(far[a], far[b]) + pipes.length[p];
-            if (through >= Math.max(far[a], far[b])) {
-                return false;
+            int length = pipes.length[p];
+            if (far[a] + length < far[b]) {
+                far[b] = far[a] + length;
+                return true;
             }
-            far[far[a] > far[b] ? a : b] = through;
-            return true;
+            if (far[b] + length < far[a]) {
+                far[a] = far[b] + length;
+                return true;
+            }
+            return false;
         }
 
         /** The least PIPE with which a shortest way goes on makes the least row. */
@@ -854,7 +860,7 @@ public final class FerretCables {
         }
     }
 
-    /** The STEPS and what comes of them; they are played only as far as someone asks. */
+    /** The STEPS and what comes of them: always played to the end. */
     private static final class Book {
         final Ways ways;
         final Pipes pipes;
@@ -867,8 +873,6 @@ public final class FerretCables {
         /** The PIPES in which a wire was drawn, as bits. */
         final int[] laid = new int[STEPS];
         int many;
-        /** So many STEPS have been played since PIPES changed. */
-        int played;
 
         Book(Ways ways) {
             this.ways = ways;
@@ -882,30 +886,25 @@ public final class FerretCables {
             from[many] = start;
             to[many] = target;
             many++;
+            playFrom(many - 1);
             return many;
         }
 
-        void dropLast() {
+        void dropStep() {
             if (many > 0) {
                 many--;
             }
-            played = Math.min(played, many);
         }
 
-        void playAnew() {
-            played = 0;
+        /** What STEPS before the first one did must stand; from 0 on when PIPES, SHUT or TAKES change. */
+        void playFrom(int first) {
+            for (int step = first; step < many; step++) {
+                lying[step + 1] = from[step] == NONE ? afterPull(to[step], lying[step]) : afterLetIn(step);
+            }
         }
 
         int lyingNow() {
-            return lyingBehind(many);
-        }
-
-        int lyingBehind(int k) {
-            for (int step = played; step < many; step++) {
-                lying[step + 1] = from[step] == NONE ? afterPull(to[step], lying[step]) : afterLetIn(step);
-            }
-            played = many;
-            return lying[k];
+            return lying[many];
         }
 
         private int afterLetIn(int step) {
@@ -936,7 +935,6 @@ public final class FerretCables {
         }
 
         int firstNotDone() {
-            lyingNow();
             for (int step = 0; step < many; step++) {
                 if (!isDone(step)) {
                     return step;
@@ -946,7 +944,6 @@ public final class FerretCables {
         }
 
         int howManyDone() {
-            lyingNow();
             int sum = 0;
             for (int step = 0; step < many; step++) {
                 if (isDone(step)) {
@@ -957,7 +954,7 @@ public final class FerretCables {
         }
 
         int pipesOf(int wire, int wires) {
-            return hasBit(wires, wire) ? laid[wire] : 0;
+            return (wires & (1 << wire)) == 0 ? 0 : laid[wire];
         }
 
         int endsOf(int wire) {
@@ -1047,14 +1044,14 @@ public final class FerretCables {
         int greatest(int from, int to) {
             Arrays.fill(along, 0);
             int sum = 0;
-            while (sum < PIPES * MOST_TAKEN && seek(from, to)) {
+            while (sum < PIPES * MOST_TAKEN && seekRoom(from, to)) {
                 push(from, to);
                 sum++;
             }
             return sum;
         }
 
-        private boolean seek(int from, int to) {
+        private boolean seekRoom(int from, int to) {
             Arrays.fill(by, NONE);
             int seen = bit(from);
             int end = 1;
@@ -1345,7 +1342,7 @@ public final class FerretCables {
             return -10 - number;
         }
 
-        boolean has(int s) {
+        boolean hasSheet(int s) {
             return within(s, 0, SHEETS - 1);
         }
 

@@ -103,6 +103,11 @@ public final class PromisesTest {
         due("none is done", x.count(3), 0);
         due("SHUT stays", x.set(0, 0), 2);
         due("type() from the start", x.type('a'), 1);
+        x = typed("ab10");
+        x.letIn(0, 1);
+        due("a wire lies", x.count(4), 1);
+        x.wipe();
+        due("none lies without PIPES", x.count(4), 0);
     }
 
     private static void undo() {
@@ -335,6 +340,11 @@ public final class PromisesTest {
         due("two are whole", x.read(0), 2);
         due("they come behind", x.count(2), 3);
         due("they are drawn", x.state(3, 0), 6);
+        x.sheet(2, 1, 4);
+        lay(x, 2, 1, 6, 7, 7, 6);
+        due("all are whole", x.read(2), 2);
+        x.back();
+        x.back();
         x.sheet(1, 2, 6);
         lay(x, 1, 2, 4, 5, 6, 6, 0, 1);
         due("till one may not be: to itself", x.read(1), 1);
@@ -589,6 +599,13 @@ public final class PromisesTest {
         due("left(-1)", x.left(-1), BAD);
         x.pull(0);
         due("wires that lie", x.left(0), 6);
+        x = typed("ab90");
+        x.letIn(0, 1);
+        due("wire 0 never fails", x.left(999), 1);
+        x = typed("ab99");
+        x.letIn(0, 1);
+        due("wire 0 has not failed", x.left(11), 1);
+        due("wire 0 has failed", x.left(12), 0);
     }
 
     private static void burns() {
@@ -694,6 +711,8 @@ public final class PromisesTest {
         due("heard(0, 0, 8)", x.heard(0, 0, 8), BAD);
         due("heard(0, 0, -2)", x.heard(0, 0, -2), BAD);
         x = typed(many("ab10", 16));
+        due("heard(0, 6, 7)", x.heard(0, 6, 7), 0);
+        due("heard(7, 0, 7)", x.heard(7, 0, 7), 1);
         due("the most ways of all", x.heard(0, 6, 0), 16L * 15 * 15 * 15 * 15 * 15);
     }
 
@@ -884,10 +903,14 @@ public final class PromisesTest {
         due("sheet(3, 0, -1)", x.sheet(3, 0, -1), SIZE);
         due("sheet(3, 0, least)", x.sheet(3, 0, LEAST), SIZE);
         due("count(8)", x.count(8), 5);
-        x.lay(3, 2, 59, 7);
+        for (int i = 0; i < 60; i++) {
+            x.lay(3, 2, i, 7);
+        }
         due("it stays behind SIZE", x.get(3, 2, 59), 7);
         due("anew", x.sheet(3, 2, 60), 60);
-        due("its items are 0", x.get(3, 2, 59), 0);
+        for (int i = 0; i < 60; i++) {
+            due("its items are 0", x.get(3, 2, i), 0);
+        }
         due("of another FORM", x.sheet(3, 0, 2), 2);
         due("it has just these", x.lay(3, 0, 2, 1), INDEX);
         due("its neighbour", x.sheet(2, 0, 60), 60);
@@ -1097,6 +1120,15 @@ public final class PromisesTest {
         due("which is another one", x.digest() == full ? 1 : 0, 0);
         x.type('x');
         due("digest() with a FAULT", x.digest(), digestAsTold(x));
+        // here DRAWN is not MOST, and a wire fails on day 10
+        x = typed("ab10;cd10;bc10;ac50;bd50;ef91");
+        x.set(1, 1);
+        due("digest() where DRAWN is less", x.digest(), digestAsTold(x));
+        x.set(2, 10);
+        x.letIn(4, 5);
+        due("digest() on the last day but one", x.digest(), digestAsTold(x));
+        x = typed("ab10;bc10;cd10;de10;ef10");
+        due("digest() along a row", x.digest(), digestAsTold(x));
     }
 
     private static long digestAsTold(FerretCables x) {

@@ -6,7 +6,10 @@ import java.lang.reflect.Modifier;
 import java.nio.file.Files;
 import java.nio.file.Path;
 import java.util.Arrays;
+import java.util.IdentityHashMap;
+import java.util.Map;
 import java.util.Set;
+import java.util.TreeMap;
 import java.util.TreeSet;
 import java.util.regex.Matcher;
 import java.util.regex.Pattern;
@@ -26,6 +29,7 @@ public final class ShapeTest {
     private static final String[] LEFT_OUT = {"throw", "throws", "try", "catch", "finally", "synchronized",
         "assert", "protected", "native", "volatile", "transient", "var", "package"};
     private static final int MOST_CLASSES = 12, MOST_FIELDS = 20, MOST_PARAMETERS = 7;
+    private static final int MOST_LINES = 60, MOST_DEPTH = 8;
     private static final int MOST_OBJECTS = 60, MOST_ELEMENTS = 1000;
 
     private static int wrong = 0;
@@ -129,39 +133,56 @@ public final class ShapeTest {
             hold(left.contains(uses.group()), uses.group() + " is of the library that is left");
         }
         hold(text.chars().allMatch(sign -> sign < 128), "plain signs alone");
-        hold(longestMethod(code) <= 60, "methods stay short");
+        Map<String, String> bodies = bodies(code);
+        hold(bodies.size() > FACE.length, "methods were seen");
+        Map<String, Integer> depths = new TreeMap<>();
+        for (Map.Entry<String, String> one : bodies.entrySet()) {
+            hold(one.getValue().split("\n").length <= MOST_LINES, one.getKey() + " is short");
+            int depth = depth(one.getKey(), bodies, depths);
+            hold(depth <= MOST_DEPTH, one.getKey() + " goes " + depth + " calls deep");
+        }
     }
 
-    /** In lines, by the braces that stand where a member's do. */
-    private static int longestMethod(String code) {
-        int longest = 0;
-        int start = -1;
-        String end = null;
-        String[] lines = code.split("\n");
-        for (int i = 0; i < lines.length; i++) {
-            String line = lines[i];
-            if (start < 0 && line.endsWith(") {") && line.matches("( {4}| {8})[a-zA-Z].*")) {
-                start = i;
-                end = line.substring(0, line.length() - line.stripLeading().length()) + "}";
-            } else if (start >= 0 && line.equals(end)) {
-                longest = Math.max(longest, i - start + 1);
-                start = -1;
+    /** The text of each method by its name, by the braces that stand where a member's do. */
+    private static Map<String, String> bodies(String code) {
+        Map<String, String> bodies = new TreeMap<>();
+        Matcher m = Pattern.compile("(?ms)^( {4}| {8})(?:\\w[\\w\\[\\]]* )+(\\w+)\\([^)]*\\) \\{\n.*?^\\1\\}$")
+                .matcher(code);
+        while (m.find()) {
+            hold(bodies.put(m.group(2), m.group()) == null, m.group(2) + " is the name of one method alone");
+        }
+        return bodies;
+    }
+
+    /** How many calls stand open at once below and with this one. */
+    private static int depth(String name, Map<String, String> bodies, Map<String, Integer> depths) {
+        if (depths.containsKey(name)) {
+            hold(depths.get(name) > 0, name + " does not call itself");
+            return depths.get(name);
+        }
+        depths.put(name, 0);
+        int deepest = 0;
+        String body = bodies.get(name);
+        Matcher calls = Pattern.compile("(\\w+)\\(").matcher(body.substring(body.indexOf('{')));
+        while (calls.find()) {
+            if (bodies.containsKey(calls.group(1))) {
+                deepest = Math.max(deepest, depth(calls.group(1), bodies, depths));
             }
         }
-        hold(longest > 0, "methods were seen");
-        return longest;
+        depths.put(name, deepest + 1);
+        return deepest + 1;
     }
 
     /** What one object holds: calls make nothing, so this is all that it ever has. */
     private static void room() throws IllegalAccessException {
         FerretCables x = new FerretCables();
         int[] sum = {0, 0};
-        weigh(x, sum, new java.util.IdentityHashMap<>());
+        weigh(x, sum, new IdentityHashMap<>());
         hold(sum[0] <= MOST_OBJECTS, sum[0] + " objects and arrays");
         hold(sum[1] <= MOST_ELEMENTS, sum[1] + " fields and elements");
     }
 
-    private static void weigh(Object o, int[] sum, java.util.Map<Object, Object> seen) throws IllegalAccessException {
+    private static void weigh(Object o, int[] sum, Map<Object, Object> seen) throws IllegalAccessException {
         if (seen.put(o, o) != null) {
             return;
         }
