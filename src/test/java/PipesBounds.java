@@ -20,6 +20,7 @@ final class PipesBounds extends Bounds {
         wipeLeavesTheRest();
         undoOfAny();
         undoTakesItsSign();
+        undoPlaysAnew();
         undoOfNone();
         emptyIsWell();
         notEndedIsAtItsEnd();
@@ -235,6 +236,18 @@ final class PipesBounds extends Bounds {
         due("the last of two", x.undo(), 1);
         due("bytes", x.count(1), 4);
         due("what is left", x.pipe(0, 3), 4);
+    }
+
+    private static void undoPlaysAnew() {
+        sentence(4, "The last PIPE is undone");
+        FerretCables x = typed("ab20;ab10");
+        x.letIn(0, 1);
+        due("in the last", x.wire(1, 0), 2);
+        x.undo();
+        due("in the one that is left", x.wire(1, 0), 1);
+        x.undo();
+        due("in none", x.wire(1, 0), 0);
+        due("not done", x.judged(), 0);
     }
 
     private static void undoOfNone() {

@@ -140,6 +140,8 @@ public final class ShapeTest {
             hold(one.getValue().split("\n").length <= MOST_LINES, one.getKey() + " is short");
             int depth = depth(one.getKey(), bodies, depths);
             hold(depth <= MOST_DEPTH, one.getKey() + " goes " + depth + " calls deep");
+            boolean making = Pattern.compile("\\bnew\\b").matcher(one.getValue()).find();
+            hold(!making || Character.isUpperCase(one.getKey().charAt(0)), one.getKey() + " makes nothing");
         }
     }
 

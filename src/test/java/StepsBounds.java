@@ -366,6 +366,12 @@ final class StepsBounds extends Bounds {
             due("of " + n + " items", x.read(0), n / 2);
             due("STEPS", x.count(2), 1 + n / 2);
         }
+        FerretCables odd = typed("ab10");
+        Stage.lay(odd, 0, 0, 1, 1, 1, 1, 1, 1);
+        Stage.lay(odd, 0, 0, 0, 1, 1);
+        due("a from without its to", odd.read(0), 1);
+        Stage.lay(odd, 0, 2, 6);
+        due("a from alone", odd.read(0), 0);
         FerretCables x = typed("ab11;cd12");
         Stage.lay(x, 1, 1, 0, 1, 3, 2);
         x.read(1);

@@ -33,6 +33,8 @@ final class WaysBounds extends Bounds {
         litByOneAndTwo();
         litByThree();
         litLeastRow();
+        litFromTheGreater();
+        litAskedBehindOthers();
         litNeedsWays();
         litBehindSixteen();
     }
@@ -535,6 +537,33 @@ final class WaysBounds extends Bounds {
         x.set(1, 1);
         // the greatest: 5 to 6 as the second
         litOf(x, 96, 2, 6, 46);
+    }
+
+    /** The way back may be another one of like length, which leaves room for the second. */
+    private static void litFromTheGreater() {
+        sentence(22, "the least row of 8 times the END from which and the END to which");
+        FerretCables x = typed("ef30;eh10;ha30;bh20;be10");
+        x.set(1, 1);
+        // from 0 to 1 by 2, 1, 4; from 1 to 0 by 3, 2, and then from 1 to 5 by 4, 0
+        litOf(x, 34, 2, 8, 13);
+        x = typed("gf20;gc10;ag40;ch30;eh10;ge20;ce10");
+        x.set(1, 1);
+        // from 0 to 7 by 2, 1, 6, 4; from 7 to 0 by 4, 5, 2, and then from 5 to 7 by 0, 1, 3
+        litOf(x, 160, 2, 56, 47);
+    }
+
+    private static void litAskedBehindOthers() {
+        sentence(22, "All that follows is behind all STEPS.");
+        FerretCables x = typed("ab10;bc10");
+        x.set(1, 1);
+        due("DRAWN takes all up, but only to ask", x.most(0, 2, 0), 1);
+        litOf(x, 4, 1, 2, NONE);
+        due("MOST, too", x.most(0, 2, 1), 1);
+        litOf(x, 6, 2, 1, 10);
+        due("DRAWN again", x.most(0, 2, 0), 1);
+        due("shortest as before", x.shortest(0, 2, NONE), 2);
+        due("a LET-IN as before", x.letIn(0, 2), 1);
+        due("its PIPES", x.wire(1, 0), 3);
     }
 
     private static void litNeedsWays() {

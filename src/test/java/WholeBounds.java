@@ -212,6 +212,15 @@ final class WholeBounds extends Bounds {
         digestOf("a row of ENDS", Stage.row(), Stage.row());
         String apart = "ab10;bc10;cd10;ac30;bd30;ah10;hg10;gf10;fe10";
         digestOf("DRAWN less than MOST", typed(apart), typed(apart));
+        for (int hard = 8; hard <= 11; hard++) {
+            FerretCables one = typed("ab11");
+            one.set(2, hard);
+            one.letIn(0, 1);
+            FerretCables two = typed("ab11");
+            two.set(2, hard);
+            two.letIn(0, 1);
+            digestOf("a wire that fails on day " + hard, one, two);
+        }
         digestOf("all of everything", Stage.full(), Stage.full());
     }
 
