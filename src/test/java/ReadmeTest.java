@@ -88,6 +88,10 @@ public final class ReadmeTest {
         try {
             Path file = Files.writeString(at.resolve("ReadmeRuns.java"), program(readme));
             JavaCompiler compiler = ToolProvider.getSystemJavaCompiler();
+            hold(compiler != null, "no compiler is at hand, so its Java cannot be run");
+            if (compiler == null) {
+                return;
+            }
             String path = System.getProperty("java.class.path");
             int code = compiler.run(null, null, null, "-cp", path, "-d", at.toString(), file.toString());
             hold(code == 0, "its Java does not compile");
